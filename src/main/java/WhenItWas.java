@@ -13,7 +13,8 @@ public final class WhenItWas {
 
     private static final int NO_DAY = -300000, NO_SPAN = -300001;
     private static final int NO_DIFFERENCE = -500000, NO_BETWEEN = -500001;
-    private static final int LEAST_INT = -2147483648;
+    private static final int LEAST_INT = 1 << 31;
+    private static final long LEAST_LONG = 1L << 63;
 
     private static final int NULL = 1, INDEX = 2, CAST = 3, STORE = 4, SIZE = 5;
     private static final int BYTES = 0, SHORTS = 1, INTS = 2, LOST = -1;
@@ -576,7 +577,7 @@ public final class WhenItWas {
     }
 
     private static long asLong(int refusal) {
-        return Long.MIN_VALUE - refusal;
+        return LEAST_LONG - refusal;
     }
 
     private static long commonDivisor(long a, long b) {
@@ -840,7 +841,7 @@ public final class WhenItWas {
         /** One number for a thing's span by a set of rows, or for that they cannot all be. */
         long spanKey(int thing, long set) {
             if (!solve(set)) {
-                return Long.MAX_VALUE;
+                return LEAST_LONG;
             }
             return endOfThing(thing, 0) * 1000000L + endOfThing(thing, 1);
         }
