@@ -283,15 +283,8 @@ public final class WhenItWas {
     // ---- doubts
 
     public long doubts() {
-        long known = knownRows();
-        if (net.canHold(known)) {
-            return 0;
-        }
-        if (Long.bitCount(known) > MOST_DOUBTED) {
-            return asLong(FULL);
-        }
-        doubt.search(net, known);
-        return doubt.best;
+        int refusal = lookForDoubts(knownRows());
+        return refusal < 0 ? asLong(refusal) : doubt.best;
     }
 
     public int blamed(int row) {
@@ -302,14 +295,8 @@ public final class WhenItWas {
         if ((known >>> row & 1) == 0) {
             return NOT;
         }
-        if (net.canHold(known)) {
-            return 0;
-        }
-        if (Long.bitCount(known) > MOST_DOUBTED) {
-            return FULL;
-        }
-        doubt.search(net, known);
-        return doubt.blame[row];
+        int refusal = lookForDoubts(known);
+        return refusal < 0 ? refusal : doubt.blame[row];
     }
 
     // ---- orders
@@ -660,6 +647,19 @@ public final class WhenItWas {
         return Math.max(0, greatest - least + 1);
     }
 
+    /** A refusal, or 0: the doubt is then of these rows, and empty if all of them can be. */
+    private int lookForDoubts(long known) {
+        doubt.clear();
+        if (net.canHold(known)) {
+            return 0;
+        }
+        if (Long.bitCount(known) > MOST_DOUBTED) {
+            return FULL;
+        }
+        doubt.search(net, known);
+        return 0;
+    }
+
     /** Lays down which thing is surely ahead of which; false: not all rows can be. */
     private boolean layLines() {
         if (!net.solve(knownRows())) {
@@ -957,10 +957,15 @@ public final class WhenItWas {
         long best = 0;
         int bestTrust = 0;
 
-        void search(Net net, long known) {
+        void clear() {
             Arrays.fill(blame, 0);
             best = 0;
+            bestTrust = 0;
             size = 0;
+        }
+
+        /** Begins with a cleared one. */
+        void search(Net net, long known) {
             for (int row = 0; row < MOST_ROWS; row++) {
                 if ((known >>> row & 1) != 0 && size < MOST_DOUBTED) {
                     candidates[size] = row;

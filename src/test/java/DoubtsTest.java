@@ -17,15 +17,8 @@ public final class DoubtsTest {
         CHECK.due(call, got, want);
     }
 
-    private static WhenItWas with(int things, int books) {
-        WhenItWas x = new WhenItWas();
-        for (int t = 0; t < things; t++) x.thing();
-        for (int b = 0; b < books; b++) x.book(0, 0);
-        return x;
-    }
-
     private static void fewest() {
-        WhenItWas x = with(2, 2);
+        WhenItWas x = Check.with(2, 2);
         due("24: no row", x.blamed(0), WhenItWas.BAD);
         x.on(0, 0, 5, 5);
         x.on(0, 0, 5, 6);
@@ -45,7 +38,7 @@ public final class DoubtsTest {
     }
 
     private static void trustDecides() {
-        WhenItWas x = with(2, 3);
+        WhenItWas x = Check.with(2, 3);
         x.trust(1, 4);
         x.trust(2, 6);
         x.on(2, 0, 1, 1);
@@ -64,7 +57,7 @@ public final class DoubtsTest {
     }
 
     private static void leastBits() {
-        WhenItWas x = with(3, 1);
+        WhenItWas x = Check.with(3, 1);
         x.on(0, 2, 1, 1);
         x.on(0, 0, 1, 1);
         x.apart(0, 1, 0, 3, 3);
@@ -77,7 +70,7 @@ public final class DoubtsTest {
     }
 
     private static void blameAlone() {
-        WhenItWas x = with(1, 1);
+        WhenItWas x = Check.with(1, 1);
         x.on(0, 0, 1, 1);
         x.on(0, 0, 2, 2);
         x.on(0, 0, 3, 3);
@@ -86,7 +79,7 @@ public final class DoubtsTest {
     }
 
     private static void twelveAtMost() {
-        WhenItWas x = with(1, 1);
+        WhenItWas x = Check.with(1, 1);
         for (int r = 0; r < 12; r++) x.on(0, 0, 1, 1);
         x.on(0, 0, 1, 1);
         due("23: thirteen that can be", x.doubts(), 0);
@@ -103,7 +96,7 @@ public final class DoubtsTest {
     }
 
     private static void allAgainstAll() {
-        WhenItWas x = with(1, 2);
+        WhenItWas x = Check.with(1, 2);
         for (int r = 0; r < 28; r++) {
             x.on(0, 0, 0, 0);
             x.takeBack(r);
@@ -119,7 +112,7 @@ public final class DoubtsTest {
     }
 
     private static void asOf() {
-        WhenItWas x = with(1, 1);
+        WhenItWas x = Check.with(1, 1);
         x.on(0, 0, 1, 1);
         x.pass(1);
         x.on(0, 0, 2, 2);

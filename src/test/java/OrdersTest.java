@@ -17,15 +17,8 @@ public final class OrdersTest {
         CHECK.due(call, got, want);
     }
 
-    private static WhenItWas with(int things) {
-        WhenItWas x = new WhenItWas();
-        for (int t = 0; t < things; t++) x.thing();
-        x.book(0, 0);
-        return x;
-    }
-
     private static void ahead() {
-        WhenItWas x = with(3);
+        WhenItWas x = Check.with(3, 1);
         due("25: of itself", x.ahead(1, 1), WhenItWas.BAD);
         due("25: no such thing", x.ahead(3, 0), WhenItWas.BAD);
         due("25: no such other", x.ahead(0, 3), WhenItWas.BAD);
@@ -43,7 +36,7 @@ public final class OrdersTest {
     }
 
     private static void aheadByDaysAndClocks() {
-        WhenItWas x = with(3);
+        WhenItWas x = Check.with(3, 1);
         x.on(0, 0, 10, 20);
         x.on(0, 1, 20, 30);
         due("25: perhaps both on 20", x.ahead(0, 1), 0);
@@ -69,7 +62,7 @@ public final class OrdersTest {
     }
 
     private static void diamond() {
-        WhenItWas x = with(5);
+        WhenItWas x = Check.with(5, 1);
         x.apart(0, 1, 0, 1, 9);
         x.apart(0, 2, 0, 1, 9);
         x.apart(0, 3, 1, 1, 9);
@@ -90,7 +83,7 @@ public final class OrdersTest {
     }
 
     private static void shares() {
-        WhenItWas x = with(12);
+        WhenItWas x = Check.with(12, 1);
         due("27: no such thing", x.share(12, 0, 0), Check.asLong(WhenItWas.BAD));
         due("27: no such other", x.share(0, -1, 0), Check.asLong(WhenItWas.BAD));
         due("27: what 2", x.share(0, 1, 2), Check.asLong(WhenItWas.BAD));
@@ -113,21 +106,21 @@ public final class OrdersTest {
     }
 
     private static void question() {
-        WhenItWas x = with(3);
+        WhenItWas x = Check.with(3, 1);
         due("29: all free", x.question(), 1);
         x.apart(0, 0, 2, 1, 9);
         due("29: a free one and two in order: both alike", x.question(), 1);
-        WhenItWas y = with(4);
+        WhenItWas y = Check.with(4, 1);
         y.apart(0, 1, 0, 1, 9);
         y.apart(0, 2, 1, 1, 9);
         due("29: the middle one halves", y.question(), 103);
         y.apart(0, 3, 2, 1, 9);
         due("29: nothing left", y.question(), WhenItWas.NONE);
-        WhenItWas z = with(12);
+        WhenItWas z = Check.with(12, 1);
         for (int t = 1; t < 11; t++) z.apart(0, t, t - 1, 1, 9);
         due("29: the middle of eleven", z.question(), 511);
         due("29: asked again", z.question(), 511);
-        WhenItWas w = with(5);
+        WhenItWas w = Check.with(5, 1);
         w.apart(0, 0, 2, 1, 9);
         w.apart(0, 1, 3, 1, 9);
         w.apart(0, 4, 3, 1, 9);
@@ -136,7 +129,7 @@ public final class OrdersTest {
     }
 
     private static void notAllCanBe() {
-        WhenItWas x = with(2);
+        WhenItWas x = Check.with(2, 1);
         x.on(0, 0, 1, 1);
         x.on(0, 0, 2, 2);
         due("25: not", x.ahead(0, 1), WhenItWas.NOT);

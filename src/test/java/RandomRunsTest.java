@@ -16,6 +16,7 @@ public final class RandomRunsTest {
     private final int[] trueOffs = new int[6];
     private final int scatter;
     private final int lies;
+    private final int mostRows;
     private final int run;
 
     private RandomRunsTest(Check check, int run) {
@@ -24,6 +25,8 @@ public final class RandomRunsTest {
         chance = new Random(7919L * run + 1);
         scatter = new int[] {3, 12, 400, 60000, 199000}[run % 5];
         lies = new int[] {0, 2, 10, 40}[run / 5 % 4];
+        // Doubts are looked for among twelve rows at most: runs with few rows are needed too.
+        mostRows = new int[] {9, 12, 14, 20, 40, 40, 12}[run % 7];
         for (int t = 0; t < 12; t++) trueDays[t] = chance.nextInt(2 * scatter + 1) - scatter;
         for (int b = 0; b < 6; b++) trueOffs[b] = chance.nextInt(2 * Math.min(scatter, 900) + 1) - Math.min(scatter, 900);
     }
@@ -56,7 +59,7 @@ public final class RandomRunsTest {
 
     private void step() {
         int kind = chance.nextInt(100);
-        if (kind < 22) {
+        if (kind < 22 && (y.count(3) < mostRows || chance.nextInt(30) == 0)) {
             tellRow();
         } else if (kind < 27) {
             change();
@@ -96,7 +99,7 @@ public final class RandomRunsTest {
         int book = pick(y.count(2));
         int thing = pick(y.count(1));
         int other = pick(y.count(1));
-        int wide = new int[] {0, 1, 5, scatter}[chance.nextInt(4)];
+        int wide = new int[] {0, 0, 1, 5, scatter}[chance.nextInt(5)];
         int below = chance.nextInt(wide + 1);
         int above = chance.nextInt(wide + 1);
         if (chance.nextInt(60) == 0) below = -above - 1;
@@ -143,6 +146,9 @@ public final class RandomRunsTest {
         int i = pick(6);
         int eight = pick(8);
         long set = chance.nextLong() & chance.nextLong() & (1L << Math.min(y.count(3), 40)) - 1;
+        for (int r = 0; r < y.count(3); r++) {
+            if (y.about(r, 7) == 0 && chance.nextInt(30) > 0) set &= ~(1L << r);
+        }
         if (chance.nextInt(20) == 0) set |= 1L << chance.nextInt(64);
         long rows = set;
         switch (chance.nextInt(14)) {
@@ -154,8 +160,7 @@ public final class RandomRunsTest {
             case 5 -> due("led(" + t + ", " + end + ")", x.led(t, end), y.led(t, end));
             case 6 -> due("changed(" + t + ", " + i + ")", x.changed(t, i), y.changed(t, i));
             case 7 -> due("fits(" + s + ")", x.fits(s), y.fits(s));
-            case 8 -> due("room(" + s + ", " + b + ")", x.room(s, b), y.room(s, b));
-            case 9 -> due("kin(" + b + ", " + c + ", " + three + ")", x.kin(b, c, three), y.kin(b, c, three));
+            case 8, 9 -> due("kin(" + b + ", " + c + ", " + three + ")", x.kin(b, c, three), y.kin(b, c, three));
             case 10 -> due("hangs(" + t + ")", x.hangs(t), y.hangs(t));
             case 11 -> due("doubts()", x.doubts(), y.doubts());
             case 12 -> due("blamed(" + row + ")", x.blamed(row), y.blamed(row));
@@ -181,7 +186,7 @@ public final class RandomRunsTest {
     private void useDates() {
         int calendar = pick(2);
         int what = pick(3);
-        int b = pick(2);
+        int b = pick(y.count(2));
         int t = pick(y.count(1));
         switch (chance.nextInt(6)) {
             case 0 -> {
@@ -204,17 +209,22 @@ public final class RandomRunsTest {
     }
 
     private void typeText() {
+        if (chance.nextBoolean()) due("wipe()", x.wipe(), y.wipe());
         String text = SIGNS[chance.nextInt(SIGNS.length)];
-        if (chance.nextBoolean()) {
-            text = chance.nextInt(32) + "." + chance.nextInt(13) + "." + chance.nextInt(601) + "abab".charAt(chance.nextInt(4));
-        }
-        if (chance.nextInt(3) == 0) text = "-" + text;
+        if (chance.nextInt(3) > 0) text = anyDate(150 + chance.nextInt(100));
+        if (chance.nextInt(3) == 0) text += "-" + anyDate(200 + chance.nextInt(100));
+        if (chance.nextInt(4) == 0) text = "-" + text;
         if (chance.nextInt(5) == 0) text += (char) chance.nextInt(256);
         for (int i = 0; i < text.length(); i++) {
             int b = text.charAt(i);
             due("type(" + b + ")", x.type(b), y.type(b));
         }
         due("fault()", x.fault(), y.fault());
+        if (chance.nextInt(4) == 0) due("said(0, 0)", x.said(0, 0), y.said(0, 0));
+    }
+
+    private String anyDate(int year) {
+        return chance.nextInt(32) + "." + chance.nextInt(13) + "." + year + (chance.nextBoolean() ? "a" : "b");
     }
 
     private void useSheets() {

@@ -21,13 +21,6 @@ public final class RowsTest {
         CHECK.due(call, got, want);
     }
 
-    private static WhenItWas with(int things) {
-        WhenItWas x = new WhenItWas();
-        for (int t = 0; t < things; t++) x.thing();
-        x.book(0, 0);
-        return x;
-    }
-
     private static void newObject() {
         WhenItWas x = new WhenItWas();
         for (int what = 0; what <= 8; what++) due("1: count(" + what + ") of a new object", x.count(what), 0);
@@ -80,7 +73,7 @@ public final class RowsTest {
     }
 
     private static void trusting() {
-        WhenItWas x = with(1);
+        WhenItWas x = Check.with(1, 1);
         due("5: trust of no book", x.trust(1, 5), WhenItWas.BAD);
         due("5: trust of book -1", x.trust(-1, 5), WhenItWas.BAD);
         due("5: trust 0", x.trust(0, 0), WhenItWas.BAD);
@@ -93,7 +86,7 @@ public final class RowsTest {
     }
 
     private static void tellingOn() {
-        WhenItWas x = with(2);
+        WhenItWas x = Check.with(2, 1);
         due("6: no such book", x.on(1, 0, 0, 0), WhenItWas.BAD);
         due("6: book -1", x.on(-1, 0, 0, 0), WhenItWas.BAD);
         due("6: no such thing", x.on(0, 2, 0, 0), WhenItWas.BAD);
@@ -114,7 +107,7 @@ public final class RowsTest {
     }
 
     private static void tellingApart() {
-        WhenItWas x = with(3);
+        WhenItWas x = Check.with(3, 1);
         x.book(0, 0);
         due("7: no such book", x.apart(2, 0, 1, 0, 0), WhenItWas.BAD);
         due("7: no such thing", x.apart(0, 3, 1, 0, 0), WhenItWas.BAD);
@@ -138,7 +131,7 @@ public final class RowsTest {
     }
 
     private static void fullOfRows() {
-        WhenItWas x = with(2);
+        WhenItWas x = Check.with(2, 1);
         for (int r = 0; r < 38; r++) due("6: on()", x.on(0, 0, 0, 0), r);
         due("7: apart()", x.apart(0, 0, 1, 0, 0), 38);
         due("6: on()", x.on(0, 0, 0, 0), 39);
@@ -159,18 +152,13 @@ public final class RowsTest {
         due("10: about(39, 4)", x.about(39, 4), 0);
     }
 
-    private static void fill(WhenItWas x, int s, int type, int... items) {
-        x.sheet(s, type, items.length);
-        for (int i = 0; i < items.length; i++) x.put(s, type, i, items[i]);
-    }
-
     private static void reading() {
-        WhenItWas x = with(3);
+        WhenItWas x = Check.with(3, 1);
         due("8: read(-1)", x.read(-1), WhenItWas.BAD);
         due("8: read(4)", x.read(4), WhenItWas.BAD);
         due("8: read() of a lost one", x.read(0), -11);
         due("8: the finding", x.count(8), 1);
-        fill(x, 0, 0, 0, 1, -1, -7, 9, 0, 2, 1, -3, 4, 0, 1, -1, 5);
+        Check.fill(x, 0, 0, 0, 1, -1, -7, 9, 0, 2, 1, -3, 4, 0, 1, -1, 5);
         due("8: two are whole", x.read(0), 2);
         int[] first = {0, 1, -1, -7, 9, 0, -1, 1};
         int[] second = {0, 2, 1, -3, 4, 0, -1, 1};
@@ -178,39 +166,39 @@ public final class RowsTest {
             due("8: about(0, " + what + ")", x.about(0, what), first[what]);
             due("8: about(1, " + what + ")", x.about(1, what), second[what]);
         }
-        fill(x, 1, 2, 0, 0, -1, -200000, 200000);
+        Check.fill(x, 1, 2, 0, 0, -1, -200000, 200000);
         due("8: of ints", x.read(1), 1);
         due("8: of ints, x", x.about(2, 3), -200000);
         x.sheet(2, 2, 0);
         due("8: of an empty one", x.read(2), 0);
         x.sheet(2, 2, 4);
         due("8: of none whole", x.read(2), 0);
-        fill(x, 3, 1, 0, 0, -1, 1, 1, 0, 0, -1, 1, 1, 0, 0, -1, 1, 1, 0, 0, -1, 1, 1,
+        Check.fill(x, 3, 1, 0, 0, -1, 1, 1, 0, 0, -1, 1, 1, 0, 0, -1, 1, 1, 0, 0, -1, 1, 1,
                 0, 0, -1, 1, 1, 0, 0, -1, 1, 1, 0, 0, -1, 1, 1, 0, 0, -1, 1, 1);
         due("8: eight at most", x.read(3), 8);
         due("8: all told", x.count(3), 11);
     }
 
     private static void readingStops() {
-        WhenItWas x = with(2);
-        fill(x, 0, 2, 0, 0, -1, 1, 1, 0, 0, -1, 2, 1, 0, 0, -1, 1, 1);
+        WhenItWas x = Check.with(2, 1);
+        Check.fill(x, 0, 2, 0, 0, -1, 1, 1, 0, 0, -1, 2, 1, 0, 0, -1, 1, 1);
         due("8: stops at x above y", x.read(0), 1);
         due("8: one told", x.count(3), 1);
-        fill(x, 0, 2, 0, 0, -2, 1, 1);
+        Check.fill(x, 0, 2, 0, 0, -2, 1, 1);
         due("8: other -2", x.read(0), 0);
-        fill(x, 0, 2, 0, 0, 0, 1, 1);
+        Check.fill(x, 0, 2, 0, 0, 0, 1, 1);
         due("8: the same thing", x.read(0), 0);
-        fill(x, 0, 2, 0, 0, 1, 1, 100001);
+        Check.fill(x, 0, 2, 0, 0, 1, 1, 100001);
         due("8: too far apart", x.read(0), 0);
-        fill(x, 0, 2, 1, 0, 1, 1, 1);
+        Check.fill(x, 0, 2, 1, 0, 1, 1, 1);
         due("8: no such book", x.read(0), 0);
         for (int r = 1; r < 39; r++) x.on(0, 0, 0, 0);
-        fill(x, 0, 2, 0, 0, 1, 1, 1, 0, 0, 1, 1, 1);
+        Check.fill(x, 0, 2, 0, 0, 1, 1, 1, 0, 0, 1, 1, 1);
         due("8: stops when full", x.read(0), 1);
     }
 
     private static void takingBack() {
-        WhenItWas x = with(1);
+        WhenItWas x = Check.with(1, 1);
         due("9: no row", x.takeBack(0), WhenItWas.BAD);
         x.on(0, 0, 1, 1);
         x.on(0, 0, 1, 2);
@@ -236,7 +224,7 @@ public final class RowsTest {
     }
 
     private static void asOfDays() {
-        WhenItWas x = with(1);
+        WhenItWas x = Check.with(1, 1);
         due("11: asOf(1) on day 0", x.asOf(1), WhenItWas.BAD);
         due("11: asOf(-2)", x.asOf(-2), WhenItWas.BAD);
         due("11: asOf(0)", x.asOf(0), WhenItWas.NONE);

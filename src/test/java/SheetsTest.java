@@ -102,19 +102,14 @@ public final class SheetsTest {
         due("39: the finding stays", x.count(8), 2);
     }
 
-    private static void fill(WhenItWas x, int s, int type, int... items) {
-        x.sheet(s, type, items.length);
-        for (int i = 0; i < items.length; i++) x.put(s, type, i, items[i]);
-    }
-
     private static void holds(WhenItWas x, int s, int type, int... items) {
         for (int i = 0; i < items.length; i++) due("40: item " + i, x.get(s, type, i), items[i]);
     }
 
     private static void copy() {
         WhenItWas x = new WhenItWas();
-        fill(x, 0, 1, 1, 2, 3, 4, 5);
-        fill(x, 1, 1, 6, 7, 8);
+        Check.fill(x, 0, 1, 1, 2, 3, 4, 5);
+        Check.fill(x, 1, 1, 6, 7, 8);
         due("40: two of them", x.copy(0, 3, 1, 1, 2), 1);
         holds(x, 1, 1, 6, 4, 5);
         holds(x, 0, 1, 1, 2, 3, 4, 5);
@@ -136,7 +131,7 @@ public final class SheetsTest {
         found(x, "40: from a lost one", x.copy(1, 0, 0, 0, 1), 1);
         x.sheet(1, 2, 3);
         found(x, "40: unlike types", x.copy(0, 9, 1, 0, 1), 4);
-        fill(x, 1, 0, 7, 8);
+        Check.fill(x, 1, 0, 7, 8);
         found(x, "40: i below 0", x.copy(0, -1, 1, 0, 1), 2);
         found(x, "40: j below 0", x.copy(0, 0, 1, -1, 1), 2);
         found(x, "40: n below 0", x.copy(0, 0, 1, 0, -1), 2);

@@ -24,15 +24,8 @@ public final class SpansTest {
         CHECK.due(call, got, want);
     }
 
-    private static WhenItWas with(int things) {
-        WhenItWas x = new WhenItWas();
-        for (int t = 0; t < things; t++) x.thing();
-        x.book(0, 0);
-        return x;
-    }
-
     private static void canBe() {
-        WhenItWas x = with(2);
+        WhenItWas x = Check.with(2, 1);
         due("12: none of no rows", x.can(0), 1);
         due("12: a row that there is not", x.can(1), WhenItWas.BAD);
         x.on(0, 0, 1, 1);
@@ -58,14 +51,14 @@ public final class SpansTest {
     }
 
     private static void circles() {
-        WhenItWas x = with(12);
+        WhenItWas x = Check.with(12, 1);
         for (int t = 1; t < 12; t++) x.apart(0, t, t - 1, 0, 0);
         due("13: a chain", x.all(), 1);
         x.apart(0, 0, 11, 0, 0);
         due("13: a circle of 0", x.all(), 1);
         x.apart(0, 0, 11, 1, 1);
         due("13: a circle that is off by 1", x.all(), 0);
-        WhenItWas far = with(4);
+        WhenItWas far = Check.with(4, 1);
         far.apart(0, 1, 0, 100000, 100000);
         far.apart(0, 2, 1, 100000, 100000);
         far.apart(0, 3, 2, 100000, 100000);
@@ -82,7 +75,7 @@ public final class SpansTest {
     }
 
     private static void spans() {
-        WhenItWas x = with(2);
+        WhenItWas x = Check.with(2, 1);
         due("14: no such thing", x.span(2, 0), -300000);
         due("14: thing -1", x.span(-1, 0), -300000);
         due("14: end 2", x.span(0, 2), -300000);
@@ -105,7 +98,7 @@ public final class SpansTest {
     }
 
     private static void clocks() {
-        WhenItWas x = with(1);
+        WhenItWas x = Check.with(1, 1);
         x.book(-20, 30);
         due("15: no such book", x.clock(2, 0), -300000);
         due("15: book -1", x.clock(-1, 0), -300000);
@@ -121,7 +114,7 @@ public final class SpansTest {
     }
 
     private static void between() {
-        WhenItWas x = with(4);
+        WhenItWas x = Check.with(4, 1);
         due("16: no such thing", x.between(4, 0, 0), -500000);
         due("16: no such other", x.between(0, 4, 0), -500000);
         due("16: end 2", x.between(0, 1, 2), -500000);
@@ -145,7 +138,7 @@ public final class SpansTest {
     }
 
     private static void led() {
-        WhenItWas x = with(4);
+        WhenItWas x = Check.with(4, 1);
         due("17: no such thing", x.led(4, 0), WhenItWas.BAD);
         due("17: end 2", x.led(0, 2), WhenItWas.BAD);
         due("17: end -1", x.led(0, -1), WhenItWas.BAD);
@@ -169,7 +162,7 @@ public final class SpansTest {
         due("17: a step from what a clock may be", x.led(3, 1), 1);
         x.on(0, 0, 0, 1);
         due("17: not all can be", x.led(0, 0), WhenItWas.NOT);
-        WhenItWas y = with(3);
+        WhenItWas y = Check.with(3, 1);
         y.apart(0, 1, 0, 1, 5);
         y.apart(0, 2, 1, 1, 5);
         y.on(0, 2, 50, 60);
@@ -179,7 +172,7 @@ public final class SpansTest {
     }
 
     private static void changed() {
-        WhenItWas x = with(2);
+        WhenItWas x = Check.with(2, 1);
         x.on(0, 0, 0, 100);
         x.pass(3);
         x.on(0, 0, 10, 100);
@@ -203,7 +196,7 @@ public final class SpansTest {
     }
 
     private static void changedByDoubt() {
-        WhenItWas x = with(1);
+        WhenItWas x = Check.with(1, 1);
         x.thing();
         x.on(0, 0, 5, 5);
         x.pass(1);
@@ -225,46 +218,41 @@ public final class SpansTest {
         due("18: none for it on 4", x.changed(1, 2), WhenItWas.NONE);
     }
 
-    private static void fill(WhenItWas x, int s, int type, int... items) {
-        x.sheet(s, type, items.length);
-        for (int i = 0; i < items.length; i++) x.put(s, type, i, items[i]);
-    }
-
     private static void fits() {
-        WhenItWas x = with(2);
+        WhenItWas x = Check.with(2, 1);
         due("19: no such sheet", x.fits(4), WhenItWas.BAD);
         due("19: sheet -1", x.fits(-1), WhenItWas.BAD);
         due("19: a lost one", x.fits(0), -11);
         x.sheet(0, 2, 1);
         due("19: too few items", x.fits(0), -12);
         due("19: the finding", x.count(8), 2);
-        fill(x, 0, 2, 5, 9, Integer.MAX_VALUE);
+        Check.fill(x, 0, 2, 5, 9, Integer.MAX_VALUE);
         due("19: items beyond the things do not matter", x.fits(0), 1);
-        fill(x, 0, 2, 200001, 0);
+        Check.fill(x, 0, 2, 200001, 0);
         due("19: no day", x.fits(0), 0);
-        fill(x, 0, 2, 0, -200001);
+        Check.fill(x, 0, 2, 0, -200001);
         due("19: no day", x.fits(0), 0);
-        fill(x, 0, 2, Integer.MIN_VALUE, Integer.MAX_VALUE);
+        Check.fill(x, 0, 2, Integer.MIN_VALUE, Integer.MAX_VALUE);
         due("19: no days at all", x.fits(0), 0);
-        fill(x, 0, 2, 200000, -200000);
+        Check.fill(x, 0, 2, 200000, -200000);
         due("19: the last days", x.fits(0), 1);
         x.book(2, 4);
         x.on(1, 0, 10, 10);
         x.on(1, 1, 20, 20);
-        fill(x, 0, 0, 7, 17);
+        Check.fill(x, 0, 0, 7, 17);
         due("19: off by 3 both", x.fits(0), 1);
-        fill(x, 0, 0, 7, 16);
+        Check.fill(x, 0, 0, 7, 16);
         due("19: not off by 3 and by 4", x.fits(0), 0);
-        fill(x, 0, 0, 9, 19);
+        Check.fill(x, 0, 0, 9, 19);
         due("19: nor by 1", x.fits(0), 0);
         x.takeBack(1);
-        fill(x, 0, 0, 7, 16);
+        Check.fill(x, 0, 0, 7, 16);
         due("19: taken back", x.fits(0), 1);
         x.apart(0, 1, 0, 10, 12);
         due("19: apart by 9", x.fits(0), 0);
-        fill(x, 0, 0, 7, 17);
+        Check.fill(x, 0, 0, 7, 17);
         due("19: apart by 10", x.fits(0), 1);
-        fill(x, 0, 0, 7, 20);
+        Check.fill(x, 0, 0, 7, 20);
         due("19: apart by 13", x.fits(0), 0);
         WhenItWas none = new WhenItWas();
         none.sheet(3, 0, 0);
@@ -272,27 +260,27 @@ public final class SpansTest {
     }
 
     private static void fitsByEachRow() {
-        WhenItWas x = with(3);
+        WhenItWas x = Check.with(3, 1);
         x.apart(0, 1, 0, 10, 12);
-        fill(x, 0, 0, 1, 11, 0);
+        Check.fill(x, 0, 0, 1, 11, 0);
         due("19: the least apart", x.fits(0), 1);
-        fill(x, 0, 0, 1, 13, 0);
+        Check.fill(x, 0, 0, 1, 13, 0);
         due("19: the greatest apart", x.fits(0), 1);
-        fill(x, 0, 0, 1, 14, 0);
+        Check.fill(x, 0, 0, 1, 14, 0);
         due("19: the first row counts", x.fits(0), 0);
-        fill(x, 0, 0, 1, 10, 0);
+        Check.fill(x, 0, 0, 1, 10, 0);
         due("19: one too few", x.fits(0), 0);
-        WhenItWas y = with(1);
+        WhenItWas y = Check.with(1, 1);
         y.on(0, 0, 5, 5);
-        fill(y, 0, 0, 6);
+        Check.fill(y, 0, 0, 6);
         due("19: the first book counts", y.fits(0), 0);
         due("20: the first book counts", y.room(0, 0), WhenItWas.NOT);
-        fill(y, 0, 0, 5);
+        Check.fill(y, 0, 0, 5);
         due("19: the first book is right", y.fits(0), 1);
     }
 
     private static void room() {
-        WhenItWas x = with(2);
+        WhenItWas x = Check.with(2, 1);
         x.book(-5, 5);
         x.on(1, 0, 10, 13);
         x.on(1, 1, 20, 24);
@@ -303,24 +291,24 @@ public final class SpansTest {
         x.sheet(0, 0, 1);
         due("20: too few items", x.room(0, 0), -12);
         due("20: wrong comes first", x.room(0, 2), WhenItWas.BAD);
-        fill(x, 0, 0, 10, 20);
+        Check.fill(x, 0, 0, 10, 20);
         due("20: 0 to 3", x.room(0, 1), 4);
         due("20: of a book that says nothing", x.room(0, 0), 1);
-        fill(x, 0, 0, 8, 20);
+        Check.fill(x, 0, 0, 8, 20);
         due("20: 2 to 4", x.room(0, 1), 3);
-        fill(x, 0, 0, 6, 20);
+        Check.fill(x, 0, 0, 6, 20);
         due("20: only 4", x.room(0, 1), 1);
-        fill(x, 0, 0, 5, 20);
+        Check.fill(x, 0, 0, 5, 20);
         due("20: not fitting", x.room(0, 1), WhenItWas.NOT);
         due("20: not fitting, for any book", x.room(0, 0), WhenItWas.NOT);
-        fill(x, 0, 0, 15, 25);
+        Check.fill(x, 0, 0, 15, 25);
         due("20: -5 to -2, -5 to -1", x.room(0, 1), 4);
-        fill(x, 0, 0, 17, 27);
+        Check.fill(x, 0, 0, 17, 27);
         due("20: only -5 and -4", x.room(0, 1), 2);
     }
 
     private static void kin() {
-        WhenItWas x = with(4);
+        WhenItWas x = Check.with(4, 1);
         x.book(0, 0);
         due("21: no such book", x.kin(0, 2, 0), -500000);
         due("21: book -1", x.kin(-1, 0, 0), -500000);
@@ -352,7 +340,7 @@ public final class SpansTest {
     }
 
     private static void kinOfLikes() {
-        WhenItWas x = with(7);
+        WhenItWas x = Check.with(7, 1);
         x.book(0, 0);
         int[] differences = {4, -2, 9, -2, 4, 7, -100};
         for (int t = 0; t < 7; t++) {
@@ -369,11 +357,11 @@ public final class SpansTest {
     }
 
     private static void hangs() {
-        WhenItWas x = with(3);
+        WhenItWas x = Check.with(3, 1);
         due("22: no such thing", x.hangs(3), Check.asLong(WhenItWas.BAD));
         due("22: thing -1", x.hangs(-1), Check.asLong(WhenItWas.BAD));
         due("22: no rows", x.hangs(0), 0);
-        WhenItWas even = with(1);
+        WhenItWas even = Check.with(1, 1);
         even.on(0, 0, -5, 5);
         due("22: both ends by as much", even.hangs(0), 1);
         x.on(0, 0, 10, 20);

@@ -33,6 +33,20 @@ final class Check {
         return Long.MIN_VALUE - refusal;
     }
 
+    /** An object with so many things, and books whose clocks are right. */
+    static WhenItWas with(int things, int books) {
+        WhenItWas x = new WhenItWas();
+        for (int t = 0; t < things; t++) x.thing();
+        for (int b = 0; b < books; b++) x.book(0, 0);
+        return x;
+    }
+
+    /** A new sheet with just these items. */
+    static void fill(WhenItWas x, int s, int type, int... items) {
+        x.sheet(s, type, items.length);
+        for (int i = 0; i < items.length; i++) x.put(s, type, i, items[i]);
+    }
+
     /** Types a text into the dates, which are wiped before. */
     static void typeAll(WhenItWas x, String text) {
         x.wipe();
