@@ -6,6 +6,7 @@ public final class DoubtsTest {
         fewest();
         trustDecides();
         leastBits();
+        allOfThem();
         blameAlone();
         twelveAtMost();
         allAgainstAll();
@@ -67,6 +68,19 @@ public final class DoubtsTest {
         due("24: each of the three", x.blamed(2), 1);
         due("24: each of the three", x.blamed(3), 1);
         due("24: not the first", x.blamed(0), 0);
+    }
+
+    private static void allOfThem() {
+        WhenItWas x = Check.with(1, 0);
+        x.book(-5, -1);
+        x.on(0, 0, 200000, 200000);
+        due("23: one that cannot be by itself", x.doubts(), 1);
+        due("24: one that cannot be by itself", x.blamed(0), 1);
+        x.on(0, 0, 199999, 200000);
+        due("23: another that can", x.doubts(), 1);
+        x.on(0, 0, 200000, 200000);
+        due("23: two of three", x.doubts(), 5);
+        due("24: the one that can", x.blamed(1), 0);
     }
 
     private static void blameAlone() {

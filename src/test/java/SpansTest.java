@@ -5,11 +5,13 @@ public final class SpansTest {
     public static void main(String[] args) {
         canBe();
         circles();
+        longestWay();
         spans();
         clocks();
         between();
         led();
         changed();
+        changedMostOften();
         changedByDoubt();
         fits();
         fitsByEachRow();
@@ -47,6 +49,11 @@ public final class SpansTest {
         due("13: all() then", x.all(), 1);
         x.asOf(0);
         due("13: all() as of 0", x.all(), 0);
+        WhenItWas beyond = Check.with(1, 0);
+        beyond.book(-5, -1);
+        beyond.on(0, 0, 200000, 200000);
+        due("12: a row by which the day would be beyond all days", beyond.can(1), 0);
+        due("12: without it", beyond.can(0), 1);
         due("12: can(3) as of 0", x.can(3), 0);
     }
 
@@ -72,6 +79,26 @@ public final class SpansTest {
         far.thing();
         far.apart(0, 5, 4, 1, 1);
         due("13: one more is too far", far.all(), 0);
+    }
+
+    /** The longest way that there is, through all clocks and things, with the rows told from its end on. */
+    private static void longestWay() {
+        WhenItWas x = Check.with(12, 1);
+        for (int b = 1; b < 6; b++) x.book(-1000, 1000);
+        for (int t = 11; t > 5; t--) x.apart(0, t, t - 1, 1, 1);
+        for (int b = 5; b > 0; b--) {
+            x.on(b, b, 10 * b, 10 * b);
+            x.on(b, b - 1, 10 * b, 10 * b);
+        }
+        x.on(0, 0, 7, 7);
+        due("13: the longest way", x.all(), 1);
+        due("14: its end, least", x.span(11, 0), 13);
+        due("14: its end, greatest", x.span(11, 1), 13);
+        due("15: a clock on it", x.clock(5, 1), 43);
+        due("16: from end to end", x.between(11, 0, 1), 6);
+        due("17: all its steps", x.led(11, 1), 17);
+        due("17: all its steps", x.led(11, 0), 17);
+        due("22: all its rows", x.hangs(11), (1L << 17) - 1);
     }
 
     private static void spans() {
@@ -193,6 +220,21 @@ public final class SpansTest {
         due("18: of the other no more", x.changed(1, 1), WhenItWas.NONE);
         x.asOf(4);
         due("18: as of does not matter", x.changed(0, 1), 17);
+    }
+
+    /** As many days of change as there can be: each row told on a day of its own, and taken back so. */
+    private static void changedMostOften() {
+        WhenItWas x = Check.with(1, 1);
+        for (int r = 0; r < 40; r++) {
+            x.pass(1);
+            x.on(0, 0, r, 100);
+        }
+        for (int r = 39; r >= 0; r--) {
+            x.pass(1);
+            x.takeBack(r);
+        }
+        for (int i = 0; i < 80; i++) due("18: changed(0, " + i + ")", x.changed(0, i), i + 1);
+        due("18: no more than 80", x.changed(0, 80), WhenItWas.NONE);
     }
 
     private static void changedByDoubt() {
@@ -354,6 +396,14 @@ public final class SpansTest {
         x.on(1, 2, 54, 54);
         due("21: three are more", x.kin(0, 1, 1), 3);
         due("21: then that number", x.kin(0, 1, 2), 4);
+        WhenItWas y = Check.with(12, 2);
+        for (int t = 0; t < 12; t++) {
+            y.on(1, t, t, t);
+            y.on(0, t, 2 * t, 2 * t);
+        }
+        due("21: all twelve", y.kin(0, 1, 0), 12);
+        due("21: each once", y.kin(0, 1, 1), 1);
+        due("21: the least of twelve", y.kin(0, 1, 2), -11);
     }
 
     private static void hangs() {
