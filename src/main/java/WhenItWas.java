@@ -78,8 +78,7 @@ public final class WhenItWas {
     }
 
     public int apart(int book, int thing, int other, int x, int y) {
-        if (!isBook(book) || !isThing(thing) || !isThing(other) || thing == other
-                || !isRange(x, y, FARTHEST_APART)) {
+        if (!isBook(book) || !areTwoThings(thing, other) || !isRange(x, y, FARTHEST_APART)) {
             return BAD;
         }
         return rows.tell(book, thing, other, x, y, today);
@@ -175,7 +174,7 @@ public final class WhenItWas {
     }
 
     public int between(int thing, int other, int end) {
-        if (!isThing(thing) || !isThing(other) || !isEnd(end)) {
+        if (!areTwoThings(thing, other) || !isEnd(end)) {
             return NO_DIFFERENCE;
         }
         if (!net.solve(knownRows())) {
@@ -302,7 +301,7 @@ public final class WhenItWas {
     // ---- orders
 
     public int ahead(int thing, int other) {
-        if (!isThing(thing) || !isThing(other) || thing == other) {
+        if (!areTwoThings(thing, other)) {
             return BAD;
         }
         if (!net.solve(knownRows())) {
@@ -320,7 +319,7 @@ public final class WhenItWas {
     }
 
     public long share(int thing, int other, int what) {
-        if (!isThing(thing) || !isThing(other) || what < 0 || what > 1) {
+        if (!areTwoThings(thing, other) || what < 0 || what > 1) {
             return asLong(BAD);
         }
         if (!layLines()) {
@@ -533,6 +532,10 @@ public final class WhenItWas {
 
     private boolean isThing(int thing) {
         return thing >= 0 && thing < things;
+    }
+
+    private boolean areTwoThings(int thing, int other) {
+        return isThing(thing) && isThing(other) && thing != other;
     }
 
     private boolean isBook(int book) {

@@ -88,8 +88,8 @@ public final class OrdersTest {
         due("27: no such other", x.share(0, -1, 0), Check.asLong(WhenItWas.BAD));
         due("27: what 2", x.share(0, 1, 2), Check.asLong(WhenItWas.BAD));
         due("27: what -1", x.share(0, 1, -1), Check.asLong(WhenItWas.BAD));
-        due("27: one with itself is never ahead, above", x.share(3, 3, 0), 0);
-        due("27: one with itself is never ahead, below", x.share(3, 3, 1), 1);
+        due("27: one with itself, above", x.share(3, 3, 0), Check.asLong(WhenItWas.BAD));
+        due("27: one with itself, below", x.share(3, 3, 1), Check.asLong(WhenItWas.BAD));
         x.apart(0, 1, 0, 1, 100000);
         due("26: half of 12!", x.orders(), 239500800L);
         due("27: surely, above", x.share(0, 1, 0), 1);
@@ -137,6 +137,7 @@ public final class OrdersTest {
         due("26: not", x.orders(), Check.asLong(WhenItWas.NOT));
         due("27: not", x.share(0, 1, 0), Check.asLong(WhenItWas.NOT));
         due("27: wrong first", x.share(0, 1, 2), Check.asLong(WhenItWas.BAD));
+        due("27: not all can be, itself: wrong first", x.share(1, 1, 0), Check.asLong(WhenItWas.BAD));
         due("28: not", x.first(0), Check.asLong(WhenItWas.NOT));
         due("28: wrong first", x.first(2), Check.asLong(WhenItWas.BAD));
         due("29: not", x.question(), WhenItWas.NOT);

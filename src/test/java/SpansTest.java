@@ -147,8 +147,8 @@ public final class SpansTest {
         due("16: end 2", x.between(0, 1, 2), -500000);
         due("16: all days, least", x.between(0, 1, 0), -400000);
         due("16: all days, greatest", x.between(0, 1, 1), 400000);
-        due("16: one with itself", x.between(1, 1, 0), 0);
-        due("16: one with itself", x.between(1, 1, 1), 0);
+        due("16: one with itself, least", x.between(1, 1, 0), -500000);
+        due("16: one with itself, greatest", x.between(1, 1, 1), -500000);
         x.book(-1000, 1000);
         x.on(1, 0, 50, 55);
         x.on(1, 1, 70, 70);
@@ -161,7 +161,7 @@ public final class SpansTest {
         due("16: by days, greatest", x.between(2, 3, 1), 390010);
         x.on(0, 2, 0, 0);
         due("16: not all can be", x.between(0, 1, 0), -500001);
-        due("16: not all can be, itself", x.between(1, 1, 0), -500001);
+        due("16: not all can be, itself: wrong first", x.between(1, 1, 0), -500000);
     }
 
     private static void led() {

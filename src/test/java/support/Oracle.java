@@ -147,7 +147,7 @@ final class Oracle {
     }
 
     int between(int thing, int other, int end) {
-        if (noThing(thing) || noThing(other) || end < 0 || end > 1) return -500000;
+        if (noThing(thing) || noThing(other) || thing == other || end < 0 || end > 1) return -500000;
         long[][] d = close(known(viewDay()));
         if (d == null) return -500001;
         return (int) (end == 1 ? d[1 + other][1 + thing] : -d[1 + thing][1 + other]);
@@ -324,7 +324,7 @@ final class Oracle {
     }
 
     long share(int thing, int other, int what) {
-        if (noThing(thing) || noThing(other) || what < 0 || what > 1) return Check.asLong(BAD);
+        if (noThing(thing) || noThing(other) || thing == other || what < 0 || what > 1) return Check.asLong(BAD);
         boolean[][] sure = sure();
         if (sure == null) return Check.asLong(NOT);
         long below = ways(sure, (1 << things) - 1, new HashMap<>());
