@@ -42,6 +42,8 @@ public final class CalendarsTest {
         int number = x.dayOf(calendar, 1, 1, 1);
         due("31: the day ahead of all", x.dateOf(calendar, number - 1, 0), WhenItWas.BAD);
         for (int year = 1; year <= 600; year++) {
+            // An object is used for 512 calls at most.
+            x = new WhenItWas();
             boolean leap = year % 4 == 0 && (calendar == 0 || year % 100 != 0 || year % 400 == 0);
             for (int month = 1; month <= 12; month++) {
                 int length = lengths[month - 1] + (leap && month == 2 ? 1 : 0);

@@ -109,6 +109,23 @@ public final class EdgesOfOrdersTest {
         due("orders() of twelve in a line", line(12).orders(), 1);
     }
 
+    private static WhenItWas twelveOnDays(int first, int between) {
+        WhenItWas x = Check.with(12, 6);
+        for (int t = 0; t < 12; t++) x.on(t % 6, t, first + between * t, first + between * t);
+        return x;
+    }
+
+    private static void p26_twelveEachOnADayOfItsOwn() {
+        due("orders() of days -6 to 5", twelveOnDays(-6, 1).orders(), 1);
+        due("orders() of days 1 to 12", twelveOnDays(1, 1).orders(), 1);
+        due("orders() of days -1 to -12", twelveOnDays(-1, -1).orders(), 1);
+    }
+
+    private static void p26_twelveOnOneDay() {
+        due("orders() of day 5", twelveOnDays(5, 0).orders(), ALL_ORDERS_OF_12);
+        due("orders() of day -5", twelveOnDays(-5, 0).orders(), ALL_ORDERS_OF_12);
+    }
+
     private static void p26_onTheSameDayBothOrdersCount() {
         due("orders(), perhaps the same day", apartFrom(0).orders(), 2);
         due("orders(), at least a day", apartFrom(1).orders(), 1);
@@ -241,6 +258,35 @@ public final class EdgesOfOrdersTest {
     private static void p29_whereAllIsSureNone() {
         due("question() of two", apartFrom(1).question(), NONE);
         due("question() of twelve", line(12).question(), NONE);
+    }
+
+    private static void p29_whereAllIsSureTheOtherWayRoundNone() {
+        WhenItWas x = Check.with(2, 1);
+        x.apart(0, 0, 1, 1, 9);
+        due("question() of two", x.question(), NONE);
+        due("question() of twelve", twelveOnDays(-1, -1).question(), NONE);
+    }
+
+    private static void p29_askedAgainAsMoreIsTold() {
+        WhenItWas x = Check.with(4, 1);
+        due("question() of four free ones", x.question(), 1);
+        x.apart(0, 1, 0, 1, 9);
+        due("question() then", x.question(), 203);
+        due("question() again", x.question(), 203);
+        x.apart(0, 2, 1, 1, 9);
+        due("question() with three in a line", x.question(), 103);
+        x.apart(0, 3, 1, 1, 9);
+        due("question() with two left", x.question(), 203);
+        x.apart(0, 3, 2, 1, 9);
+        due("question() at the end", x.question(), NONE);
+    }
+
+    private static void p29_ofTwoBranches() {
+        WhenItWas x = Check.with(5, 1);
+        x.apart(0, 0, 2, 1, 9);
+        x.apart(0, 1, 3, 1, 9);
+        x.apart(0, 4, 3, 1, 9);
+        due("question()", x.question(), 104);
     }
 
     private static void p29_perhapsTheSameDayIsAQuestion() {

@@ -651,16 +651,19 @@ public final class EdgesOfSheetsTest {
         due("digest()", new WhenItWas().digest(), hash(0, 0, 0, 0, 0, 0, 0, 0, 1, 1, 0));
     }
 
-    /** The digest as the document tells it, by the calls that it names; the object must have few rows. */
+    /** The digest as the document tells it, by the calls that it names. */
     private static long byCalls(WhenItWas x) {
+        int things = x.count(1);
+        int books = x.count(2);
+        int rows = x.count(3);
         long h = 17;
         for (int what = 0; what <= 7; what++) h = 31 * h + x.count(what);
-        for (int row = 0; row < x.count(3); row++) {
+        for (int row = 0; row < rows; row++) {
             for (int what = 0; what <= 7; what++) h = 31 * h + x.about(row, what);
         }
         h = 31 * h + x.all();
-        for (int t = 0; t < x.count(1); t++) h = 31 * (31 * h + x.span(t, 0)) + x.span(t, 1);
-        for (int b = 0; b < x.count(2); b++) h = 31 * (31 * h + x.clock(b, 0)) + x.clock(b, 1);
+        for (int t = 0; t < things; t++) h = 31 * (31 * h + x.span(t, 0)) + x.span(t, 1);
+        for (int b = 0; b < books; b++) h = 31 * (31 * h + x.clock(b, 0)) + x.clock(b, 1);
         h = 31 * h + x.orders();
         return 31 * h + x.fault();
     }

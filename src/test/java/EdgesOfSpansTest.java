@@ -249,6 +249,32 @@ public final class EdgesOfSpansTest {
         }
     }
 
+    /** A way through all things and clocks, one step for each row. */
+    private static WhenItWas longestWay(boolean fromItsEndOn) {
+        WhenItWas x = Check.with(12, 1);
+        for (int b = 1; b < 6; b++) x.book(-1000, 1000);
+        for (int k = 0; k < 17; k++) tellStep(x, fromItsEndOn ? 16 - k : k);
+        return x;
+    }
+
+    private static void tellStep(WhenItWas x, int step) {
+        int book = (step + 1) / 2;
+        if (step == 0) {
+            x.on(0, 0, 7, 7);
+        } else if (step <= 10) {
+            x.on(book, step % 2 == 1 ? book - 1 : book, 10 * book, 10 * book);
+        } else {
+            x.apart(0, step - 5, step - 6, 1, 1);
+        }
+    }
+
+    private static void p14_byTheLongestWay() {
+        for (int end = 0; end < 2; end++) {
+            due("span(11, " + end + ")", longestWay(false).span(11, end), 13);
+            due("span(11, " + end + "), told from its end on", longestWay(true).span(11, end), 13);
+        }
+    }
+
     private static void p14_noneKnownAsOfADay() {
         WhenItWas x = Check.with(1, 1);
         x.pass(1);
@@ -432,17 +458,33 @@ public final class EdgesOfSpansTest {
     }
 
     private static void p17_seventeenStepsAtMost() {
-        WhenItWas x = Check.with(12, 1);
-        for (int b = 1; b < 6; b++) x.book(-1000, 1000);
-        x.on(0, 0, 7, 7);
-        for (int b = 1; b < 6; b++) {
-            x.on(b, b - 1, 10 * b, 10 * b);
-            x.on(b, b, 10 * b, 10 * b);
+        for (int end = 0; end < 2; end++) {
+            due("led(11, " + end + ")", longestWay(false).led(11, end), 17);
+            due("led(11, " + end + "), told from its end on", longestWay(true).led(11, end), 17);
+            due("led(5, " + end + ")", longestWay(false).led(5, end), 11);
+            due("led(5, " + end + "), told from its end on", longestWay(true).led(5, end), 11);
         }
-        for (int t = 6; t < 12; t++) x.apart(0, t, t - 1, 1, 1);
-        due("led(11, 0)", x.led(11, 0), 17);
-        due("led(11, 1)", x.led(11, 1), 17);
-        due("led(5, 1)", x.led(5, 1), 11);
+    }
+
+    private static void p17_byTheFortiethRow() {
+        WhenItWas x = Check.with(2, 1);
+        for (int r = 0; r < 38; r++) x.on(0, 0, 5, 9);
+        x.apart(0, 1, 0, 1, 1);
+        x.on(0, 0, 6, 9);
+        due("led(0, 0)", x.led(0, 0), 1);
+        due("led(1, 0)", x.led(1, 0), 2);
+    }
+
+    private static void p17_aRowNotKnown() {
+        WhenItWas x = Check.with(2, 1);
+        x.apart(0, 1, 0, 1, 1);
+        x.on(0, 0, 10, 20);
+        x.on(0, 1, 15, 18);
+        due("led(1, 0)", x.led(1, 0), 1);
+        due("led(0, 1)", x.led(0, 1), 2);
+        x.takeBack(2);
+        due("led(1, 0), the row taken back", x.led(1, 0), 2);
+        due("led(0, 1), the row taken back", x.led(0, 1), 1);
     }
 
     private static void p17_noSuchThingIsBad() {
@@ -571,6 +613,15 @@ public final class EdgesOfSpansTest {
         x.on(0, 0, -10, -6);
         due("changed(0, 0)", x.changed(0, 0), 1);
         due("changed(0, 1)", x.changed(0, 1), 2);
+    }
+
+    private static void p18_bothEndsAsMuchFartherIsAChange() {
+        WhenItWas x = Check.with(1, 1);
+        x.on(0, 0, 5, 9);
+        x.pass(1);
+        x.takeBack(0);
+        x.on(0, 0, 4, 10);
+        due("changed(0, 0)", x.changed(0, 0), 1);
     }
 
     private static void p18_toldAndTakenBackOnOneDayIsNoChange() {
@@ -736,6 +787,12 @@ public final class EdgesOfSpansTest {
         due("fits(0) as of 1", x.fits(0), 0);
         x.asOf(0);
         due("fits(0) as of 0", x.fits(0), 1);
+        WhenItWas y = Check.with(2, 1);
+        y.sheet(0, 0, 2);
+        y.apart(0, 1, 0, 1, 1);
+        due("fits(0), a row APART", y.fits(0), 0);
+        y.takeBack(0);
+        due("fits(0), the row APART taken back", y.fits(0), 1);
     }
 
     // ---- promise 20: room
@@ -928,6 +985,12 @@ public final class EdgesOfSpansTest {
         due("kin(5, 4, 2)", x.kin(5, 4, 2), -7);
     }
 
+    private static void p21_theMostAheadOfTheLeast() {
+        WhenItWas x = saidOfTwelve(3, 3, 1, 2, 0, -1, -2, 4, 5, 6, 7, -9);
+        due("kin(4, 5, 1)", x.kin(4, 5, 1), 2);
+        due("kin(4, 5, 2)", x.kin(4, 5, 2), 3);
+    }
+
     // ---- promise 22: hangs
 
     private static void p22_noSuchThingIsBad() {
@@ -967,6 +1030,17 @@ public final class EdgesOfSpansTest {
         due("hangs(0) on two alike", x.hangs(0), 0);
         x.on(0, 0, 5, 8);
         due("hangs(0), the greatest on a third", x.hangs(0), 4);
+    }
+
+    private static void p22_onAllRowsOfTheLongestWay() {
+        due("hangs(11)", longestWay(false).hangs(11), (1L << 17) - 1);
+        due("hangs(11), told from its end on", longestWay(true).hangs(11), (1L << 17) - 1);
+    }
+
+    private static void p22_bothEndsAsMuchNearerThanAllDays() {
+        WhenItWas x = Check.with(1, 1);
+        x.on(0, 0, -5, 5);
+        due("hangs(0)", x.hangs(0), 1);
     }
 
     private static void p22_aRowThatTellsNoMoreThanAllDays() {
